@@ -17,7 +17,6 @@ public final class WindLawyer {
     private static final int MOST_UNDONE = 8;
     private static final int MOST_BYTES = 150;
     private static final int KINDS = 6;
-    private static final int EVERY_KIND = 63;
     private static final int EVERYONE = 127;
     private static final int READ_FAULT = -10;
     private static final int NOT_SO_MANY = -5;
@@ -751,14 +750,21 @@ public final class WindLawyer {
 
         /** Only users whose bit is in standing are there. */
         void go(Table users, int standing, int strength, int side) {
+            int present = Math.min(users.size, MOST_USERS);
+            int occupied = 0;
             for (int u = 0; u < MOST_USERS; u++) {
                 taken[u] = 0;
+                if (u < present && (standing >> u & 1) == 1) {
+                    occupied |= 1 << users.at(u, USER_CELL);
+                }
             }
             int s = strength;
             for (int step = 0; step < CELLS; step++) {
                 int c = side == 0 ? step : CELLS - 1 - step;
                 ahead[c] = s;
-                for (int u = 0; u < users.size && u < MOST_USERS; u++) {
+                // Most cells are empty, and some questions ask for a thousand blows.
+                int asked = (occupied >> c & 1) == 1 ? present : 0;
+                for (int u = 0; u < asked; u++) {
                     if ((standing >> u & 1) == 1 && users.at(u, USER_CELL) == c) {
                         taken[u] = Kinds.takenOf(users.at(u, USER_KIND), users.at(u, USER_HEIGHT), s);
                         s -= taken[u];
