@@ -5,11 +5,24 @@ final class Due {
     static final int BAD = 0, NO = 1, FULL = 2;
 
     private int wrong;
+    private String sentence = "";
+
+    /** The sentence of the document that is held from here on, behind its promise; it is told with what is wrong. */
+    void sentence(String told) {
+        sentence = told + ": ";
+    }
 
     void is(String call, long got, long want) {
         if (got != want) {
             wrong++;
-            System.out.println(call + " answered " + got + ", due is " + want);
+            System.out.println(sentence + call + " answered " + got + ", due is " + want);
+        }
+    }
+
+    void same(String told, String got, String want) {
+        if (!got.equals(want)) {
+            wrong++;
+            System.out.println(sentence + told + " is " + got + ", due is " + want);
         }
     }
 
