@@ -1,3 +1,4 @@
+import java.lang.reflect.Field;
 import java.lang.reflect.Method;
 import java.lang.reflect.Modifier;
 import java.nio.file.Files;
@@ -55,7 +56,20 @@ public final class LanguageTest {
             due.is(m + ": a private one of a public name",
                     Modifier.isPrivate(m.getModifiers()) && names.contains(m.getName()) ? 1 : 0, 0);
         }
+        fields(WindLawyer.class);
+        for (Class<?> inside : WindLawyer.class.getDeclaredClasses()) {
+            fields(inside);
+        }
         due.is("at most twelve classes", WindLawyer.class.getDeclaredClasses().length <= 11 ? 1 : 0, 1);
+    }
+
+    private static void fields(Class<?> one) {
+        long fields = Arrays.stream(one.getDeclaredFields()).filter(f -> !Modifier.isStatic(f.getModifiers())).count();
+        due.is(one + " has twenty fields at most beside its constants", fields <= 20 ? 1 : 0, 1);
+        for (Field field : one.getDeclaredFields()) {
+            boolean free = Modifier.isStatic(field.getModifiers()) && !Modifier.isFinal(field.getModifiers());
+            due.is(field + " is static and not final", free ? 1 : 0, 0);
+        }
     }
 
     private static void words(String code) {
